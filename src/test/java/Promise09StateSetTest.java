@@ -6,6 +6,7 @@ public final class Promise09StateSetTest {
         straight();
         branchesAndLoops();
         exactPairs();
+        lastPoint();
         notReached();
         wrongArguments();
         changesNothing();
@@ -57,6 +58,14 @@ public final class Promise09StateSetTest {
         due.is("object 1 before the IFIN", x.stateSet(5, 1), 5);
         due.is("object 1 where object 0 is in state 1", x.stateSet(6, 1), 4);
         due.is("object 1 where object 0 is not", x.stateSet(8, 1), 1);
+    }
+
+    private static void lastPoint() {
+        TypestateChecker x = cycle(Kit.CALL, 0, 0, Kit.CALL, 0, 1, Kit.CALL, 0, 2, Kit.CALL, 1, 0);
+        for (int i = 4; i < 16; i++) x.add(Kit.DROP, 2, 0);
+        due.is("stateSet(16, 0) of a full program", x.stateSet(16, 0), 8);
+        due.is("stateSet(16, 1) of a full program", x.stateSet(16, 1), 2);
+        due.is("stateSet(17, 0) of a full program", x.stateSet(17, 0), 0);
     }
 
     private static void notReached() {

@@ -7,6 +7,8 @@ public final class Promise10LocalSetTest {
         straight();
         branchesAndLoops();
         allValues();
+        allNull();
+        lastPoint();
         notReached();
         wrongArguments();
         changesNothing();
@@ -48,6 +50,23 @@ public final class Promise10LocalSetTest {
         due.is("localSet(13, 2)", x.localSet(13, 2), 31);
         due.is("localSet(13, 0)", x.localSet(13, 0), NULL | HALF0 | FULL0);
         due.is("localSet(13, 1)", x.localSet(13, 1), NULL | HALF1 | FULL1);
+    }
+
+    private static void allNull() {
+        TypestateChecker x = Kit.with(Kit.LOOP, 0, 0, Kit.DROP, 0, 0, Kit.DROP, 1, 0, Kit.END, 0, 0);
+        due.is("check()", x.check(), TypestateChecker.ACCEPTED);
+        sets("everything dropped", x, 0, NULL | FULL0, NULL | FULL0, NULL, NULL, NULL | FULL0);
+        sets("everything dropped", x, 1, NULL | FULL1, NULL | FULL1, NULL | FULL1, NULL, NULL | FULL1);
+        sets("everything dropped", x, 2, NULL, NULL, NULL, NULL, NULL);
+    }
+
+    private static void lastPoint() {
+        TypestateChecker x = Kit.with(Kit.SHARE, 2, 1);
+        for (int i = 1; i < 16; i++) x.add(Kit.DROP, 0, 0);
+        due.is("localSet(16, 0) of a full program", x.localSet(16, 0), NULL);
+        due.is("localSet(16, 1) of a full program", x.localSet(16, 1), HALF1);
+        due.is("localSet(16, 2) of a full program", x.localSet(16, 2), HALF1);
+        due.is("localSet(17, 2) of a full program", x.localSet(17, 2), 0);
     }
 
     private static void notReached() {

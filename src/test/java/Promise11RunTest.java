@@ -12,6 +12,7 @@ public final class Promise11RunTest {
         manyDecisions();
         ifinTakesNoDecision();
         jumps();
+        everythingDropped();
         faultsChangeNothing();
         startsAnew();
         changesNoProgram();
@@ -57,11 +58,11 @@ public final class Promise11RunTest {
         runs("the budget goes before the fault", fault, 0, 1, OUT, "pc 1 steps 1 states 0 0 locals 0:2 1:2 -1:0");
         runs("the fault within the budget", fault, 0, 2, TypestateChecker.F_NULL,
             "pc 1 steps 1 states 0 0 locals 0:2 1:2 -1:0");
-        exactlyTheGreatestBudget();
+        everyStatementCounts();
     }
 
-    /** 32 rounds of the outer loop's bits make 4096 steps in all only if every statement counts one. */
-    private static void exactlyTheGreatestBudget() {
+    /** A round is four steps: LOOP and END count one each as the drops do. */
+    private static void everyStatementCounts() {
         TypestateChecker x = Kit.with(Kit.LOOP, 0, 0, Kit.DROP, 2, 0, Kit.DROP, 2, 0, Kit.END, 0, 0);
         runs("31 rounds", x, 0x7fffffff, 4096, DONE, "pc 4 steps 125 states 0 0 locals 0:2 1:2 -1:0");
         runs("31 rounds, one step short", x, 0x7fffffff, 124, OUT, "pc 0 steps 124 states 0 0 locals 0:2 1:2 -1:0");
@@ -117,6 +118,12 @@ public final class Promise11RunTest {
             runs("step by step", x, 3, n, n < 11 ? OUT : DONE,
                 "pc " + pcs[n] + " steps " + n + " states " + states[n] + " 0 locals 0:2 1:2 -1:0");
         }
+    }
+
+    private static void everythingDropped() {
+        TypestateChecker x = Kit.with(Kit.LOOP, 0, 0, Kit.DROP, 0, 0, Kit.DROP, 1, 0, Kit.END, 0, 0);
+        runs("back at the loop with no reference", x, 1, 4, OUT, "pc 0 steps 4 states 0 0 locals -1:0 -1:0 -1:0");
+        runs("and past it", x, 1, 99, DONE, "pc 4 steps 5 states 0 0 locals -1:0 -1:0 -1:0");
     }
 
     private static void faultsChangeNothing() {
