@@ -34,7 +34,7 @@ public final class Promise09StateSetTest {
         sets("five calls", x, 1, 1, 1, 2, 2, 2, 2);
     }
 
-    /** An ELSE, and an IF or IFIN that is not entered, go past the END, so the END sees one part alone. */
+    /** An ELSE, and an IF without one that is not entered, go past the END, so the END sees one part alone. */
     private static void branchesAndLoops() {
         TypestateChecker branch = cycle(Kit.IF, 0, 0, Kit.CALL, 0, 0, Kit.ELSE, 0, 0, Kit.CALL, 1, 0, Kit.END, 0, 0);
         sets("IF and ELSE", branch, 0, 1, 1, 2, 1, 1, 3);
