@@ -1,11 +1,21 @@
 /** Counts and prints the answers that are not as due; end() leaves with exit code 1 if there was one. */
 final class Due {
     private final String test;
+    private String about = "";
     private int wrong = 0;
     private int asked = 0;
 
     Due(String test) {
         this.test = test;
+    }
+
+    /** The sentence that the next answers belong to; a wrong one is told with it. */
+    void about(String words) {
+        about = words;
+    }
+
+    int asked() {
+        return asked;
     }
 
     void is(String what, long got, long want) {
@@ -25,7 +35,9 @@ final class Due {
 
     private void tell(String line) {
         wrong++;
-        if (wrong <= 50) System.out.println(test + ": " + line);
+        if (wrong > 50) return;
+        System.out.println(test + ": " + line);
+        if (!about.isEmpty()) System.out.println("    the document says: " + about);
     }
 
     void end() {

@@ -1,3 +1,5 @@
+import java.util.stream.IntStream;
+
 /** What the tests share: short ways to write programs and to look at everything an object shows. */
 final class Kit {
     static final int CALL = TypestateChecker.OP_CALL, SHARE = TypestateChecker.OP_SHARE,
@@ -9,6 +11,28 @@ final class Kit {
     static final String INITIAL_MACHINE = "pc 0 steps 0 states 0 0 locals 0:2 1:2 -1:0";
 
     private Kit() {
+    }
+
+    /**
+     * Numbers outside first..last: those beside it on both sides, the ends of int, and some that would fall
+     * into it if they were cut to a byte or a short or lost their sign.
+     */
+    static int[] outside(int first, int last) {
+        int least = Integer.MIN_VALUE, greatest = Integer.MAX_VALUE;
+        return IntStream.of(least, least + 1, least + first, least + last, first - 65536, last - 65536,
+                first - 256, last - 256, -first, -last, first - 3, first - 2, first - 1,
+                last + 1, last + 2, last + 3, first + 256, last + 256, first + 65536, last + 65536,
+                greatest - 1, greatest)
+            .filter(v -> v < first || v > last).distinct().toArray();
+    }
+
+    /** The numbers of first..last and those outside it. */
+    static int[] around(int first, int last) {
+        return IntStream.concat(IntStream.rangeClosed(first, last), IntStream.of(outside(first, last))).toArray();
+    }
+
+    static boolean in(int first, int v, int last) {
+        return first <= v && v <= last;
     }
 
     /** A new object with the greatest capacity and the given program, three numbers a statement. */
