@@ -109,9 +109,28 @@ public final class Boundary02DeclareTest {
     }
 
     private static void nothingElse() {
+        methodsNotCalled();
         for (Situations.Situation s : Situations.ALL) {
             for (int cls = 0; cls < 2; cls++)
                 for (int m = 0; m < 4; m++) leavesTheRest(s, cls, m);
+        }
+    }
+
+    /** The program calls m0 alone, which differs between the classes; declaring any other method shows nowhere. */
+    private static void methodsNotCalled() {
+        for (int classes = 0; classes < 4; classes++) {
+            TypestateChecker x = Kit.with(Kit.CALL, 0, 0, Kit.LOOP, 0, 0, Kit.CALL, 1, 0, Kit.END, 0, 0, Kit.SHARE, 2, 0);
+            x.declare(0, 0, 0, 2);
+            x.declare(1, 0, 0, 3);
+            x.setClass(0, classes & 1);
+            x.setClass(1, classes >> 1);
+            x.run(1, 3);
+            String before = Kit.everything(x);
+            for (int i = 0; i < 96; i++) {
+                int cls = i / 48, m = 1 + i / 16 % 3;
+                x.declare(cls, m, i >> 2 & 3, i & 3);
+                due.is("the object after declaring method " + m + " of class " + cls, Kit.everything(x), before);
+            }
         }
     }
 
@@ -126,6 +145,7 @@ public final class Boundary02DeclareTest {
         for (int obj = 0; obj < 2; obj++)
             due.is(what + ", the class of " + obj, Whole.classOf(changed.get(), obj), Whole.classOf(s.make().get(), obj));
         due.is(what + ", the machine", Kit.machine(changed.get()), Kit.machine(s.make().get()));
+        due.is(what + ", the length", changed.get().length(), s.make().get().length());
         due.is(what + ", the capacity", Whole.capacity(changed.get()), Whole.capacity(s.make().get()));
         // With every method declared alike again, only a changed program could make a difference.
         due.is(what + ", the program", Kit.checker(alike(changed.get())), Kit.checker(alike(s.make().get())));

@@ -58,8 +58,28 @@ public final class Boundary03SetClassTest {
     }
 
     private static void nothingElse() {
+        declarationsStay();
         for (Situations.Situation s : Situations.ALL)
             for (int way = 0; way < 4; way++) leavesTheRest(s, way & 1, way >> 1);
+    }
+
+    /** Every method of both classes is called; giving the objects the classes they have, or others and back, shows nowhere. */
+    private static void declarationsStay() {
+        TypestateChecker x = new TypestateChecker(16);
+        for (int i = 0; i < 8; i++) {
+            x.declare(i / 4, i % 4, i % 4, (i + 1) % 4);
+            x.add(Kit.CALL, i / 4, i % 4);
+        }
+        x.setClass(1, 1);
+        x.run(0, 6);
+        String before = Kit.everything(x);
+        due.is("check()", x.check(), TypestateChecker.ACCEPTED);
+        for (int way = 0; way < 4; way++) {
+            x.setClass(way & 1, way >> 1);
+            x.setClass(0, 0);
+            x.setClass(1, 1);
+            due.is("the object with its classes set anew", Kit.everything(x), before);
+        }
     }
 
     private static void leavesTheRest(Situations.Situation s, int obj, int cls) {

@@ -197,6 +197,12 @@ public final class Boundary04AddTest {
     }
 
     private static void nothingElse() {
+        for (int classes = 0; classes < 4; classes++) {
+            int c0 = classes & 1, c1 = classes >> 1;
+            TypestateChecker x = Whole.allCalled(c0, c1);
+            due.is("eight methods declared before eight calls", Kit.checker(x), Whole.allAccepted(c0, c1));
+            due.is("the machine that has not run", Kit.machine(x), Kit.INITIAL_MACHINE);
+        }
         for (Situations.Situation s : Situations.ALL) {
             TypestateChecker x = s.make().get();
             String machine = Kit.machine(x);

@@ -54,6 +54,7 @@ public final class Boundary05ClearTest {
                 Whole.capacity(s.make().get()));
         }
         for (int classes = 0; classes < 4; classes++) keepsAll(classes & 1, classes >> 1);
+        clearedAndWrittenAgain();
     }
 
     private static void keepsAll(int c0, int c1) {
@@ -69,6 +70,16 @@ public final class Boundary05ClearTest {
         };
         due.is("eight declarations when cleared", Whole.protocol(make), "classes " + c0 + " " + c1
             + " declarations 1>0 2>3 3>2 0>1 1>1 2>0 3>3 0>2");
+    }
+
+    private static void clearedAndWrittenAgain() {
+        for (int classes = 0; classes < 4; classes++) {
+            int c0 = classes & 1, c1 = classes >> 1;
+            TypestateChecker x = Whole.allCalled(c0, c1);
+            x.clear();
+            for (int i = 0; i < 8; i++) x.add(Kit.CALL, i / 4, (i < 4 ? c0 : c1) == 0 ? i % 4 : (8 - i) % 4);
+            due.is("the checker on the same program after clear", Kit.checker(x), Whole.allAccepted(c0, c1));
+        }
     }
 
     private static void machine() {

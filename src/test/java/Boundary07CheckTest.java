@@ -80,7 +80,7 @@ public final class Boundary07CheckTest {
             due.is("faultPc() of way " + way, x.faultPc(), at);
         }
         sevenInARow();
-        fiftyEightSteps();
+        farAway();
     }
 
     private static void sevenInARow() {
@@ -93,9 +93,8 @@ public final class Boundary07CheckTest {
         says("seven decisions that must all be 1", REJECTED, x);
     }
 
-    /** The nearest configuration that faults lies 58 steps away: a checker that stops earlier accepts this program. */
-    private static void fiftyEightSteps() {
-        TypestateChecker x = farFault();
+    private static void farAway() {
+        TypestateChecker x = Far.fault();
         says("a fault after 58 steps", REJECTED, x);
         due.is("faultPc()", x.faultPc(), 6);
         due.is("faultKind()", x.faultKind(), TypestateChecker.F_SPLIT);
@@ -103,17 +102,7 @@ public final class Boundary07CheckTest {
         due.is("run(0xfff, 59)", x.run(0xfff, 59), TypestateChecker.F_SPLIT);
         x.declare(1, 0, 0, 0);
         says("the same with a method that holds both objects in state 0", ACCEPTED, x);
-    }
-
-    static TypestateChecker farFault() {
-        TypestateChecker x = Kit.with(Kit.LOOP, 0, 0, Kit.IF, 0, 0, Kit.DROP, 2, 0, Kit.DROP, 2, 0, Kit.IFIN, 0, 3,
-            Kit.CALL, 0, 1, Kit.SHARE, 2, 1, Kit.IFIN, 1, 0, Kit.MERGE, 1, 2, Kit.CALL, 1, 0, Kit.END, 0, 0,
-            Kit.ELSE, 0, 0, Kit.CALL, 0, 0, Kit.END, 0, 0, Kit.END, 0, 0, Kit.END, 0, 0);
-        x.setClass(0, 1);
-        x.setClass(1, 1);
-        x.declare(1, 0, 0, 3);
-        x.declare(1, 1, 3, 0);
-        return x;
+        says("a fault behind 153 configurations", REJECTED, Far.faultBehindMany());
     }
 
     private static void everyBranch() {

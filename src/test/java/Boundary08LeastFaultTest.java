@@ -61,7 +61,8 @@ public final class Boundary08LeastFaultTest {
         at("a fault that cannot be reached stands before", 4,
             Kit.with(IFIN, 0, 1, CALL, 2, 0, END, 0, 0, DROP, 2, 0, CALL, 2, 0));
         at("a fault stands behind a sure fault", 0, Kit.with(MERGE, 0, 1, CALL, 2, 0));
-        at("a fault 58 steps away", 6, Boundary07CheckTest.farFault());
+        at("a fault 58 steps away", 6, Far.fault());
+        at("a fault behind 153 configurations", 7, Far.faultBehindMany());
         everyPairOfIndices();
     }
 
@@ -132,6 +133,8 @@ public final class Boundary08LeastFaultTest {
             CALL, 0, 0);
         due.is("faultPc() with null besides", x.faultPc(), 9);
         due.is("faultKind() with null besides", x.faultKind(), TypestateChecker.F_NULL);
+        // State, permission and null again, in the second round of a loop.
+        due.is("faultKind() far away", Far.faultBehindMany().faultKind(), TypestateChecker.F_NULL);
     }
 
     private static void lesserCodeElsewhere() {

@@ -82,6 +82,8 @@ public final class Boundary09StateSetTest {
         int[] want = {15, 15, 1, 2, 14, 2, 4, 12, 8, 12, 14, 15};
         for (int pc = 0; pc < want.length; pc++) is("a loop through four states", all, pc, 0, want[pc]);
         for (int pc = 0; pc < want.length; pc++) is("a loop through four states", all, pc, 1, 1);
+        is("a state behind 450 configurations", Far.state(), 5, 0, 7);
+        is("a state behind 450 configurations", Far.state(), 6, 0, 5);
     }
 
     /** A program that ends in just the given states of the object: one IF for each state beside the first. */

@@ -107,6 +107,8 @@ public final class Boundary10LocalSetTest {
         is("two ways apart", apart, 5, 1, NULL | FULL1);
         is("two ways apart", apart, 6, 0, HALF0);
         is("two ways apart", apart, 6, 1, NULL);
+        is("a value behind 376 configurations", Far.local(), 6, 2, NULL | HALF0 | HALF1);
+        is("a value behind 376 configurations", Far.local(), 7, 2, HALF0 | HALF1);
     }
 
     private static void unreached() {

@@ -131,7 +131,7 @@ public final class Boundary11RunTest {
             run("a fault at " + at, x, 0, at + 1, TypestateChecker.F_NULL, untouched(at, at));
             run("a fault at " + at, x, 0, at - 1, OUT, untouched(at == 0 ? 0 : at - 1, at == 0 ? 0 : at - 1));
         }
-        TypestateChecker far = Boundary07CheckTest.farFault();
+        TypestateChecker far = Far.fault();
         due.is("58 steps before a fault", far.run(0xfff, 58), OUT);
         due.is("stepsDone()", far.stepsDone(), 58);
         due.is("and the fault", far.run(0xfff, 59), TypestateChecker.F_SPLIT);
@@ -369,6 +369,14 @@ public final class Boundary11RunTest {
     }
 
     private static void changesNoProgram() {
+        for (int classes = 0; classes < 4; classes++) {
+            int c0 = classes & 1, c1 = classes >> 1;
+            TypestateChecker x = Whole.allCalled(c0, c1);
+            for (int steps = -1; steps < 10; steps++) {
+                x.run(steps, steps);
+                due.is("the checker after runs", Kit.checker(x), Whole.allAccepted(c0, c1));
+            }
+        }
         for (Situations.Situation s : Situations.ALL) {
             String once = Whole.of(Situations.after(s.make(), x -> x.run(0, 0)));
             String often = Whole.of(Situations.after(s.make(), x -> {

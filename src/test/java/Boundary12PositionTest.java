@@ -19,10 +19,7 @@ public final class Boundary12PositionTest {
         section.sentence("after RUN_OUT it equals the clamped budget n;", Boundary12PositionTest::budget);
         section.sentence("otherwise it is the number of non-faulting statements executed.",
             Boundary12PositionTest::statementsExecuted);
-        section.sentence("Both change nothing.", () -> Situations.ask(due, "machinePc() and stepsDone()", x -> {
-            x.machinePc();
-            x.stepsDone();
-        }));
+        section.sentence("Both change nothing.", Boundary12PositionTest::changeNothing);
         section.end();
     }
 
@@ -130,5 +127,20 @@ public final class Boundary12PositionTest {
         TypestateChecker atOnce = Kit.with(CALL, 2, 0);
         atOnce.run(0, 99);
         due.is("stepsDone() after a fault at once", atOnce.stepsDone(), 0);
+    }
+
+    private static void changeNothing() {
+        // Known numbers, asked in turn: what shows the machine elsewhere asks for both itself.
+        TypestateChecker x = Kit.with(LOOP, 0, 0, DROP, 2, 0, END, 0, 0);
+        x.run(-1, 8);
+        for (int times = 0; times < 3; times++) {
+            due.is("machinePc() in its turn", x.machinePc(), 2);
+            due.is("stepsDone() in its turn", x.stepsDone(), 8);
+            due.is("stepsDone() again", x.stepsDone(), 8);
+        }
+        Situations.ask(due, "machinePc() and stepsDone()", y -> {
+            y.machinePc();
+            y.stepsDone();
+        });
     }
 }

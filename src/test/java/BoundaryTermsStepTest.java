@@ -437,10 +437,12 @@ public final class BoundaryTermsStepTest {
         due.is("stateSet(2, 0) behind a fault", fault.stateSet(2, 0), 0);
         due.is("stateSet(5, 0) beside the fault", fault.stateSet(5, 0), 1);
         // No step limit: object 1 comes to state 3 only late, and the fault behind it lies 58 steps away.
-        TypestateChecker far = Boundary07CheckTest.farFault();
+        TypestateChecker far = Far.fault();
         due.is("stateSet(0, 1)", far.stateSet(0, 1), 9);
         due.is("localSet(6, 1)", far.localSet(6, 1), 24);
         due.is("check()", far.check(), TypestateChecker.REJECTED);
+        due.is("stateSet(5, 0) with 450 configurations before", Far.state().stateSet(5, 0), 7);
+        due.is("localSet(6, 2) with 376 configurations before", Far.local().localSet(6, 2), 11);
         everyRunIsReached();
     }
 

@@ -34,7 +34,7 @@ final class Section {
         due.about("");
         int at = left.indexOf(words);
         due.is("stands in the section: " + words, at >= 0, true);
-        if (at >= 0) left = left.substring(0, at) + "¶" + left.substring(at + words.length());
+        if (at >= 0) left = left.substring(0, at) + " # " + left.substring(at + words.length());
         int before = due.asked();
         due.about(words);
         test.run();

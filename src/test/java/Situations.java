@@ -18,7 +18,8 @@ final class Situations {
         new Situation("a full object after a fault", Situations::fullAfterAFault),
         new Situation("a malformed program after a run", Situations::malformed),
         new Situation("a cleared object", Situations::cleared),
-        new Situation("sixteen statements", Situations::sixteen));
+        new Situation("sixteen statements", Situations::sixteen),
+        new Situation("operands that are not 0", Situations::otherOperands));
 
     private Situations() {
     }
@@ -48,7 +49,8 @@ final class Situations {
         protocol(x);
         Kit.append(x, Kit.CALL, 1, 0, Kit.SHARE, 2, 1, Kit.DROP, 0, 0);
         x.run(0, 99);
-        Kit.append(x, Kit.LOOP, 0, 0, Kit.ELSE, 0, 0);
+        // An END would mend it, and shows then that the rest is as it was.
+        Kit.append(x, Kit.IF, 0, 0, Kit.DROP, 1, 0, Kit.ELSE, 0, 0);
         return x;
     }
 
@@ -66,6 +68,16 @@ final class Situations {
             Kit.SHARE, 2, 1, Kit.MERGE, 1, 2, Kit.ELSE, 0, 0, Kit.IFIN, 0, 3, Kit.CALL, 2, 0, Kit.END, 0, 0,
             Kit.END, 0, 0, Kit.END, 0, 0, Kit.CALL, 0, 0, Kit.DROP, 0, 0);
         x.run(0x5a5a5a5b, 21);
+        return x;
+    }
+
+    static TypestateChecker otherOperands() {
+        TypestateChecker x = new TypestateChecker(10);
+        protocol(x);
+        x.setClass(1, 1);
+        Kit.append(x, Kit.CALL, 1, 1, Kit.SHARE, 2, 1, Kit.MERGE, 2, 1, Kit.CALL, 2, 2, Kit.IFIN, 2, 3,
+            Kit.DROP, 2, 3, Kit.END, 3, 3);
+        x.run(0, 4);
         return x;
     }
 

@@ -28,6 +28,36 @@ final class Whole {
         return all.toString();
     }
 
+    /**
+     * An object with all eight methods declared, whose program calls all of them that its objects' classes have:
+     * a lost declaration, class or statement makes a call of it fault. Class 0 goes up, class 1 goes down.
+     */
+    static TypestateChecker allCalled(int c0, int c1) {
+        TypestateChecker x = new TypestateChecker(8);
+        for (int m = 0; m < 4; m++) {
+            x.declare(0, m, m, (m + 1) % 4);
+            x.declare(1, m, m, (m + 3) % 4);
+        }
+        x.setClass(0, c0);
+        x.setClass(1, c1);
+        for (int i = 0; i < 8; i++) {
+            int cls = i < 4 ? c0 : c1;
+            x.add(Kit.CALL, i / 4, cls == 0 ? i % 4 : (8 - i) % 4);
+        }
+        return x;
+    }
+
+    /** What the checker says of allCalled. */
+    static String allAccepted(int c0, int c1) {
+        int[][] states = {{1, 2, 4, 8, 1}, {1, 8, 4, 2, 1}};
+        StringBuilder all = new StringBuilder("8 10 -1 -1");
+        for (int pc = 0; pc <= 8; pc++) {
+            all.append(" |").append(pc).append(" s").append(states[c0][Math.min(pc, 4)])
+                .append(" s").append(states[c1][Math.max(pc - 4, 0)]).append(" l4 l16 l1");
+        }
+        return all.toString();
+    }
+
     static int capacity(TypestateChecker x) {
         x.clear();
         int taken = 0;
@@ -63,11 +93,14 @@ final class Whole {
         for (int kind = 0; kind < 3; kind++) {
             TypestateChecker x = make.get();
             for (int i = 0; i < 8; i++) x.declare(i / 4, i % 4, kind == 0 ? 0 : i % 4, (kind * i) % 4);
-            all.append(Kit.checker(x));
             for (int choices : CHOICES) {
                 for (int steps = 1; steps < 20; steps += 3)
                     all.append(' ').append(x.run(choices, steps)).append(' ').append(Kit.machine(x));
             }
+            // After the runs, so that a question that changed the program could not hide it from them.
+            all.append(Kit.checker(x));
+            x.add(Kit.END, 0, 0);
+            all.append(" with an END more ").append(Kit.checker(x));
         }
         return all.toString();
     }
