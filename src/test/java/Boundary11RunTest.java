@@ -216,7 +216,7 @@ public final class Boundary11RunTest {
         for (int i = 0; i < programs.length; i++) {
             int last = programs[i].length / 3 - 1;
             faultsAt(Kit.file(programs[i]), last, last, codes[i]);
-            // The same behind a call that changes a state nobody asks for, and with more behind the fault.
+            // The same with other statements before, a decision among them, and with more behind the fault.
             TypestateChecker x = Kit.file(DROP, 2, 0, IF, 0, 0, DROP, 2, 0, END, 0, 0);
             Kit.append(x, programs[i]);
             Kit.append(x, DROP, 0, 0, DROP, 1, 0);
