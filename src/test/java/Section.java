@@ -7,6 +7,9 @@ import java.nio.file.Path;
  * stand in the section, and end() fails if a word of the section is left that no test was given for.
  */
 final class Section {
+    /** In place of the next heading, for the last section. */
+    static final String LAST = "";
+
     final Due due;
     private String left;
 
@@ -14,15 +17,15 @@ final class Section {
         due = new Due(test);
         String document = document();
         int first = document.indexOf(from);
-        int last = first < 0 ? -1 : document.indexOf(until, first + from.length());
+        int last = first < 0 ? -1 : endOf(document, first + from.length(), until);
         due.is("the section " + from + " stands in the document", first >= 0 && last > first, true);
         left = first >= 0 && last > first ? document.substring(first + from.length(), last) : "";
         // The names that stand in bold before a paragraph say nothing by themselves.
         left = left.replaceAll("\\*\\*[^*]+\\*\\*", "");
     }
 
-    /** .ci/run starts the tests in the project's directory. */
-    private static String document() {
+    /** The document with a single blank for every gap. .ci/run starts the tests in the project's directory. */
+    static String document() {
         try {
             return Files.readString(Path.of("../shared/DOC.md")).replaceAll("\\s+", " ");
         } catch (IOException e) {
@@ -30,16 +33,30 @@ final class Section {
         }
     }
 
+    /** Where a section that begins at from ends, or -1. */
+    static int endOf(String document, int from, String until) {
+        return until.equals(LAST) ? document.length() : document.indexOf(until, from);
+    }
+
     void sentence(String words, Runnable test) {
-        due.about("");
-        int at = left.indexOf(words);
-        due.is("stands in the section: " + words, at >= 0, true);
-        if (at >= 0) left = left.substring(0, at) + " # " + left.substring(at + words.length());
+        take(words);
         int before = due.asked();
         due.about(words);
         test.run();
         due.about("");
         due.is("answers asked for: " + words, due.asked() > before, true);
+    }
+
+    /** Words that leave something free, so that no answer can break them. */
+    void free(String words) {
+        take(words);
+    }
+
+    private void take(String words) {
+        due.about("");
+        int at = left.indexOf(words);
+        due.is("stands in the section: " + words, at >= 0, true);
+        if (at >= 0) left = left.substring(0, at) + " # " + left.substring(at + words.length());
     }
 
     void end() {
